@@ -902,16 +902,12 @@ public final class NeverBelieved {
             }
         }
 
-        /** Comes to the sentence at a place and listens to it; false, if none that can be so stands there. */
+        /** Comes to the sentence at a place; false, if none that can be so stands there. It is yet to be listened to. */
         boolean comeTo(int at) {
             if (!sentence.comeTo(at, city.manyFacts)) {
                 return false;
             }
-            if (sentence.kind != Sentence.SHALL && !sentence.stands(truth)) {
-                return false;
-            }
-            listen();
-            return true;
+            return sentence.kind == Sentence.SHALL || sentence.stands(truth);
         }
 
         /** Finds what the sentence does to each. */
@@ -1007,6 +1003,7 @@ public final class NeverBelieved {
                 if (!today.comeTo(at)) {
                     continue;
                 }
+                today.listen();
                 for (int set = 1; set < sets; set++) {
                     int then = today.sumIfSaidTo(set);
                     if (then > sum && today.isSoSaidTo(set)) {
@@ -1033,8 +1030,11 @@ public final class NeverBelieved {
         void countEmpty(int one) {
             startCounting();
             for (int at = 0; at < Sentence.PLACES; at++) {
-                if (today.comeTo(at) && today.isSoSaidTo(1 << one)
-                        && !today.movesIfSaidTo(1 << one)) {
+                if (!today.comeTo(at)) {
+                    continue;
+                }
+                today.listen();
+                if (today.isSoSaidTo(1 << one) && !today.movesIfSaidTo(1 << one)) {
                     countIn(today.sentence.number());
                 }
             }
@@ -1043,7 +1043,11 @@ public final class NeverBelieved {
         void countSaid(int one, boolean did) {
             startCounting();
             for (int at = 0; at < Sentence.PLACES; at++) {
-                if (today.comeTo(at) && today.isSoSaidTo(1 << one) && today.doesDeedIfTold(one) == did) {
+                if (!today.comeTo(at)) {
+                    continue;
+                }
+                today.listen();
+                if (today.isSoSaidTo(1 << one) && today.doesDeedIfTold(one) == did) {
                     countIn(today.sentence.number());
                 }
             }
@@ -1074,6 +1078,7 @@ public final class NeverBelieved {
                 if (!today.comeTo(at)) {
                     continue;
                 }
+                today.listen();
                 for (int p = 0; p < city.manyPeople; p++) {
                     if (today.isSoSaidTo(1 << p)) {
                         all |= 1L << today.truthIfSaidTo(1 << p);
@@ -1092,6 +1097,7 @@ public final class NeverBelieved {
                 if (!today.comeTo(Sentence.placeOfSingle(n))) {
                     continue;
                 }
+                today.listen();
                 for (int p = 0; p < city.manyPeople; p++) {
                     if (!today.isSoSaidTo(1 << p)) {
                         continue;
@@ -1106,21 +1112,18 @@ public final class NeverBelieved {
             }
         }
 
+        /** The most sum behind the last night, if today's sentence is said to a set. */
         private int sumOfPlan(int set, boolean twoDays) {
             if (!twoDays) {
                 return today.sumIfSaidTo(set);
             }
-            return mostTomorrow(today.truthIfSaidTo(set), today.mindsIfSaidTo(set));
-        }
-
-        /** The most sum behind the next night, when one thing or nothing is said ahead of it. */
-        private int mostTomorrow(int truth, long minds) {
-            tomorrow.look(truth, minds);
+            tomorrow.look(today.truthIfSaidTo(set), today.mindsIfSaidTo(set));
             int most = tomorrow.sumIfSaidTo(NOBODY);
             for (int n = 0; n < Sentence.SINGLES; n++) {
                 if (!tomorrow.comeTo(Sentence.placeOfSingle(n))) {
                     continue;
                 }
+                tomorrow.listen();
                 for (int p = 0; p < city.manyPeople; p++) {
                     if (tomorrow.isSoSaidTo(1 << p)) {
                         most = Math.max(most, tomorrow.sumIfSaidTo(1 << p));
