@@ -382,6 +382,18 @@ public final class BoundsTest {
         bestIs(told("good 0 1;good 0 0;good 9 0;doubter 0 0 2 1;doubter 1 1 2 1"), 9, 100, 1);
         // By 100 b: SHALL 0 and SHALL 1 can both be so, said to one or to another.
         bestIs(told("good 0 0;good 9 0;knower 0 1 0 0 0;child 0 1 0 1;cause 0 1 1 1"), 9, 40100, 2);
+        says("all SENTENCES: of each FACT, IS and SHALL, first to last");
+        for (int f = 0; f < 6; f++) {
+            for (int b = 0; b < 2; b++) {
+                singles(f, b);
+            }
+        }
+        says("SUM behind this NIGHT: with the deeds of those who believe already");
+        NeverBelieved x = told("good 0 1;good 9 0;good 4 0;child 0 1 1 1;doubter 0 0 2 1");
+        x.say(1, 0, 0, 1, 0, 0);
+        bestIs(x, 13, 100, 2);
+        x.say(2, 0, 0, 1, 0, 0);
+        bestIs(x, 13, NONE, 0);
         says("the least set of it");
         for (int p = 0; p < 5; p++) {
             String others = "doubter 1 1 1 1";
@@ -392,6 +404,21 @@ public final class BoundsTest {
         bestIs(told("good 0 1;good 9 0;good 5 0;child 0 0 1 1;doubter 0 0 1 1;child 1 1 1 1;doubter 0 0 2 1"), 14, 100, 10);
         // The interpreter is told, so that the children hear of it; to them all it would be said by 7.
         bestIs(told("good 1 1;good 9 0;good 5 0;interpreter 2 1 0 0;doubter 0 1 1 1;doubter 0 1 2 1"), 15, 100, 1);
+    }
+
+    /** Of 6 facts only one, f, that is b, is of use: a doubter does by its contrary, a child makes it the contrary. */
+    private static void singles(int f, int b) {
+        StringBuilder facts = new StringBuilder();
+        for (int k = 0; k < 6; k++) facts.append(k == 0 ? "" : ";").append(k == f ? (b == 0 ? "good 9 " : "bad 9 ") + b : "good 0 0");
+        NeverBelieved x = told(facts + ";doubter " + f + " " + (1 - b) + " " + f + " " + (1 - b));
+        bestIs(x, b == 0 ? 9 : 0, 1000 * f + 100 * b, 1);
+        planIs(x, 1, b == 0 ? 9 : 0, 1000 * f + 100 * b, 0);
+        due("plan(2, 0)", x.plan(2, 0), 9999 + (b == 0 ? 9 : 0));
+        x = told(facts + ";child " + f + " " + (1 - b) + " " + f + " " + (1 - b));
+        bestIs(x, b == 0 ? 9 : 0, 40000 + 1000 * f + 100 * (1 - b), 1);
+        planIs(x, 1, b == 0 ? 9 : 0, 40000 + 1000 * f + 100 * (1 - b), 0);
+        due("plan(2, 0)", x.plan(2, 0), 9999 + (b == 0 ? 9 : 0));
+        due("said(0, 1, 1)", x.said(0, 1, 1), 40000 + 1000 * f + 100 * (1 - b));
     }
 
     private static void empty() {
@@ -508,6 +535,19 @@ public final class BoundsTest {
         x.undo();
         x.back(0);
         due("count(7)", x.count(7), 3);
+        says("all FACTS are TRUE, or none is");
+        x = told(times("good 1 1", 6));
+        for (int n = 1; n <= 5; n++) {
+            x.bet(n, 90 + n);
+            sureIs(x, 10 * n - n * (n + 1) / 2, (1 << n) - 1);
+        }
+        x = told(times("good 1 0", 6));
+        for (int n = 1; n <= 5; n++) x.bet(n, 0);
+        sureIs(x, 0, 0);
+        says("whatever SENTENCE: the first of all, 0, said to the interpreter, spoils what no other does");
+        x = told("good 0 0;good 1 1;good 0 0;interpreter 0 1 0 1;child 0 0 2 1;cause 0 0 2 0;cause 2 1 1 0");
+        x.bet(1, 1);
+        sureIs(x, 0, 0);
         says("whichever one alone, or SILENCE (by the worst of these)");
         x = told("good 1 1;child 0 1 0 0");
         x.bet(0, 1);

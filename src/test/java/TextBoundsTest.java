@@ -341,6 +341,10 @@ public final class TextBoundsTest {
         says("city: all as at first");
         NeverBelieved y = told("good 1 1;child 0 0 0 0;cause 0 0 0 0;city");
         for (int what = 0; what < 10; what++) due("count(" + what + ")", y.count(what), what == 4 ? 9999 : 0);
+        NeverBelieved was = told("good 1 1;interpreter 0 0 0 0;knower 0 0 0 0 3", "city;good 1 1;doubter 0 1 0 1;child 0 1 0 1");
+        due("where an interpreter was", was.say(1, 0, 0, 1, 0, 0), 1);
+        due("where a knower was", was.as(1, 2), 1);
+        due("where facts were true", told(times("good 1 1", 6), "city;good 1 0;good 1 0").count(5), 0);
         says("still: no CAUSES");
         NeverBelieved z = told("good 1 1;child 0 0 0 0;cause 0 0 0 0;cause 0 0 0 0;still");
         for (int what = 0; what < 3; what++) due("count(" + what + ")", z.count(what), what == 2 ? 0 : 1);
